@@ -854,11 +854,11 @@ public final class Shortsign {
         if (orderedBits() < least) {
             return false;
         }
-        int shorter = Integer.MAX_VALUE;
+        int shorter = NONE;
         for (int bound = 1; bound <= LONGEST_WORD; bound++) {
             if (signs <= 1 << bound) {
                 int bits = boundedBits(bound);
-                if (bits < least || bits > shorter) {
+                if (bits < least || shorter >= 0 && bits > shorter) {
                     return false;
                 }
                 shorter = bits;

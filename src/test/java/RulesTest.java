@@ -15,7 +15,7 @@ public final class RulesTest {
     "\\btry\\b", "\\bcatch\\b", "\\bfinally\\b", "\\bsynchronized\\b", "\\bassert\\b", "->", "::", "\\bgoto\\b",
     "static \\{", "\\bSystem\\.(?!arraycopy)", "\\bThread\\b", "\\bRandom\\b", "\\bObject\\b", "\\bprotected\\b",
     "Exact\\(", "^package\\b", "\\bMath\\.(?!max|min|abs|floorDiv|floorMod)", "\\bequals\\(", "\\bhashCode\\(",
-    "\\btoString\\("
+    "\\btoString\\(", "M(AX|IN)_VALUE"
   };
 
   private static int wrong = 0;
