@@ -172,7 +172,8 @@ public final class Shortsign {
     public int ordered() throws NoSuchElementException, IllegalStateException {
         needCounts();
         needRoomForCode();
-        orderedLengths();
+        forest.joinInOrder(counts);
+        forest.measure(lengths);
         Code code = new Code(IN_ORDER, SIGNS);
         code.lengths.copyOf(lengths);
         code.layBySigns();
@@ -289,8 +290,8 @@ public final class Shortsign {
     // Costs.
 
     public int leastBits() {
-        leastLengths(false);
-        return costOf(lengths);
+        forest.joinLightest(counts, false);
+        return forest.joinedWeight();
     }
 
     public int boundCost(int bound) throws IllegalArgumentException, UnsupportedOperationException {
@@ -630,11 +631,6 @@ public final class Shortsign {
         forest.measure(lengths);
     }
 
-    private void orderedLengths() {
-        forest.joinInOrder(counts);
-        forest.measure(lengths);
-    }
-
     private int costOf(Row wordLengths) {
         int bits = 0;
         for (int sign = 0; sign < SIGNS; sign++) {
@@ -649,8 +645,8 @@ public final class Shortsign {
     }
 
     private int orderedBits() {
-        orderedLengths();
-        return costOf(lengths);
+        forest.joinInOrder(counts);
+        return forest.joinedWeight();
     }
 
     private int partBits(int from, int to) {
@@ -1319,6 +1315,7 @@ public final class Shortsign {
             }
         }
 
+        /** The bits of the code of the trees: each joined tree puts one bit ahead of all that it has within. */
         int joinedWeight() {
             int weight = 0;
             for (int tree = owners.size(); tree < weights.size(); tree++) {

@@ -7,8 +7,8 @@ import java.util.List;
 
 /** Runs of calls, drawn by a fixed rule, on the program and on the model: each answer and what is left must agree. */
 public final class ModelTest {
-  private static final int RUNS = 400;
-  private static final int CALLS = 250;
+  private static final int RUNS = 600;
+  private static final int CALLS = 170;
 
   private static long seed;
   private static int wrong = 0;
@@ -71,7 +71,9 @@ public final class ModelTest {
     try {
       return String.valueOf(on.getClass().getMethod(call.getName(), call.getParameterTypes()).invoke(on, arguments));
     } catch (InvocationTargetException e) {
-      return "throws." + e.getCause().getClass().getSimpleName();
+      StackTraceElement[] from = e.getCause().getStackTrace();
+      boolean byItself = on instanceof Shortsign && !from[0].getClassName().startsWith("Shortsign");
+      return (byItself ? "the machine or the library throws." : "throws.") + e.getCause().getClass().getSimpleName();
     }
   }
 
@@ -110,6 +112,56 @@ public final class ModelTest {
         System.out.println("run " + run + ", call " + call + ": " + method.getName() + Arrays.toString(arguments)
             + " answered " + got + ", due is " + due + "; checksums " + program.checksum() + ", " + model.checksum());
         return;
+      }
+    }
+  }
+
+  // All short streams, read by codes that have a word for all bits and by such that do not.
+
+  private static final int LONGEST_STREAM = 8;
+  private static final String[] LENGTHS = {"b", "bb", "bc", "bcc", "cc", "ccdd", "d", "dbd"};
+
+  private static void makeStream(Shortsign program, Model model, int length, int bits, String lengths) {
+    program.type('b');
+    program.type('b');
+    model.type('b');
+    model.type('b');
+    program.byLengths();
+    model.byLengths();
+    program.wipe();
+    model.wipe();
+    for (int left = length - 1; left >= 0; left--) {
+      program.type((bits >> left & 1) == 0 ? 'a' : 'b');
+      model.type((bits >> left & 1) == 0 ? 'a' : 'b');
+    }
+    program.write(0);
+    model.write(0);
+    program.wipe();
+    model.wipe();
+    for (char sign : lengths.toCharArray()) {
+      program.type(sign);
+      model.type(sign);
+    }
+    program.byLengths();
+    model.byLengths();
+  }
+
+  private static void allStreams() {
+    for (String lengths : LENGTHS) {
+      for (int length = 1; length <= LONGEST_STREAM; length++) {
+        for (int bits = 0; bits < 1 << length; bits++) {
+          Shortsign program = new Shortsign();
+          Model model = new Model();
+          makeStream(program, model, length, bits, lengths);
+          boolean like = program.lost(1, 0) == model.lost(1, 0);
+          for (int place = 0; place < length; place++) like &= program.inStep(1, place) == model.inStep(1, place);
+          like &= program.read(1) == model.read(1) && program.checksum() == model.checksum();
+          like &= program.readGrowing() == model.readGrowing() && program.checksum() == model.checksum();
+          if (!like) {
+            wrong++;
+            System.out.println("stream " + bits + " of " + length + " bits, read by the lengths " + lengths);
+          }
+        }
       }
     }
   }
@@ -162,6 +214,7 @@ public final class ModelTest {
     Method[] face = face();
     int runs = args.length > 0 ? Integer.parseInt(args[0]) : RUNS;
     for (int run = 0; run < runs; run++) run(run, face);
+    allStreams();
     fewest();
     System.out.println(wrong == 0 ? "program and model agree" : wrong + " runs do not agree");
     if (wrong != 0) System.exit(1);

@@ -1,109 +1,7 @@
 import java.lang.reflect.Method;
-import java.util.NoSuchElementException;
 
 /** By promise: answers worked out by hand, the edges that the document names, and wrong inputs. */
-public final class PromisesTest {
-  private interface Call {
-    Object answer();
-  }
-
-  private static final Class<?> ARGUMENT = IllegalArgumentException.class;
-  private static final Class<?> STATE = IllegalStateException.class;
-  private static final Class<?> INDEX = IndexOutOfBoundsException.class;
-  private static final Class<?> NONE = NoSuchElementException.class;
-  private static final Class<?> UNSUPPORTED = UnsupportedOperationException.class;
-  private static final Class<?> ARITHMETIC = ArithmeticException.class;
-
-  private static int wrong = 0;
-  private static String promise = "";
-
-  private static void due(Object want, Object got) {
-    if (!want.equals(got)) {
-      wrong++;
-      System.out.println(promise + ": answered " + got + ", due is " + want + " at line "
-          + new Throwable().getStackTrace()[1].getLineNumber());
-    }
-  }
-
-  /** The call throws just this, and changes nothing. */
-  private static void refused(Class<?> want, Shortsign s, Call call) {
-    long sum = s.checksum();
-    int written = s.written();
-    Object got;
-    try {
-      got = call.answer();
-    } catch (RuntimeException e) {
-      got = e.getClass();
-    }
-    if (!want.equals(got) || sum != s.checksum() || written != s.written()) {
-      wrong++;
-      System.out.println(promise + ": answered " + got + ", due is " + want + " and nothing changed, at line "
-          + new Throwable().getStackTrace()[1].getLineNumber());
-    }
-  }
-
-  private static Shortsign typing(String signs) {
-    Shortsign s = new Shortsign();
-    type(s, signs);
-    return s;
-  }
-
-  private static void type(Shortsign s, String signs) {
-    for (char sign : signs.toCharArray()) s.type(sign);
-  }
-
-  private static String text(Shortsign s) {
-    StringBuilder text = new StringBuilder();
-    for (int place = 0; place < s.length(); place++) text.append(s.typed(place));
-    return text.toString();
-  }
-
-  private static Shortsign counting(int... counts) {
-    Shortsign s = new Shortsign();
-    for (int sign = 0; sign < counts.length; sign++) s.set((char) ('a' + sign), counts[sign]);
-    return s;
-  }
-
-  private static String word(Shortsign s, int code, char sign) {
-    StringBuilder word = new StringBuilder();
-    for (int place = 0; place < s.wordLength(code, sign); place++) word.append(s.wordBit(code, sign, place));
-    return word.toString();
-  }
-
-  private static String words(Shortsign s, int code) {
-    StringBuilder words = new StringBuilder();
-    for (char sign = 'a'; sign <= 'z'; sign++) {
-      try {
-        String word = word(s, code, sign);
-        words.append(sign).append(word).append(' ');
-      } catch (NoSuchElementException e) {
-        continue;
-      }
-    }
-    return words.toString().trim();
-  }
-
-  private static String stream(Shortsign s) {
-    StringBuilder bits = new StringBuilder();
-    for (int place = 0; place < s.streamBits(); place++) bits.append(s.bitAt(place));
-    return bits.toString();
-  }
-
-  /** a 00, b 01, c 100, d 101, and no word that begins with 11. */
-  private static Shortsign byLengths(String lengths, String signs) {
-    Shortsign s = typing(lengths);
-    s.byLengths();
-    s.wipe();
-    type(s, signs);
-    return s;
-  }
-
-  private static Shortsign twelve() {
-    Shortsign s = counting(1);
-    for (int code = 0; code < 12; code++) due(code, s.least());
-    return s;
-  }
-
+public final class PromisesTest extends Checks {
   static void promise01() {
     Shortsign s = new Shortsign();
     due(0, s.length());
@@ -1012,11 +910,10 @@ public final class PromisesTest {
 
   public static void main(String[] args) throws Exception {
     for (int number = 1; number <= 53; number++) {
-      promise = "promise " + number;
+      tested = "promise " + number;
       Method test = PromisesTest.class.getDeclaredMethod(number < 10 ? "promise0" + number : "promise" + number);
       test.invoke(null);
     }
-    System.out.println(wrong == 0 ? "the promises hold" : wrong + " answers are not as due");
-    if (wrong != 0) System.exit(1);
+    end("the promises hold");
   }
 }

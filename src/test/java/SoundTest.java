@@ -57,6 +57,11 @@ public final class SoundTest {
       spoil(begins, "words", 1, 0);
       due(false, begins, "code " + kind + ", a 00 and b 0");
     }
+    for (char kind : "tk".toCharArray()) {
+      Shortsign empty = with(kind);
+      spoil(empty, "lengths", 0, 0);
+      due(false, empty, "code " + kind + ", a empty and b 1");
+    }
     System.out.println(wrong == 0 ? "isSound tells what is not sound" : wrong + " answers are not as due");
     if (wrong != 0) System.exit(1);
   }
