@@ -6,7 +6,7 @@ import java.util.Arrays;
 import java.util.Set;
 import java.util.TreeSet;
 
-/** The face is that of the document and no more, and no inner method bears the name of a public one. */
+/** The face is that of the document and no more, no inner method bears the name of a public one, and no class is large. */
 public final class FaceTest {
   private static final String[] FACE = {
     "int type(char)", "int typeMore(int,char,char,char,char,char,char,char,char)", "int wipe()", "int length()",
@@ -37,7 +37,17 @@ public final class FaceTest {
     return m.getReturnType().getName() + " " + m.getName() + "(" + types + ")";
   }
 
+  private static void small(Class<?> within) {
+    int fields = 0;
+    for (Field f : within.getDeclaredFields()) fields += Modifier.isStatic(f.getModifiers()) ? 0 : 1;
+    need(fields <= 20, "more than twenty fields: " + within);
+    for (Method m : within.getDeclaredMethods()) {
+      need(m.getParameterCount() <= 7 || Modifier.isPublic(m.getModifiers()), "more than seven parameters: " + m);
+    }
+  }
+
   private static void inner(Class<?> within, Set<String> names) {
+    small(within);
     for (Method m : within.getDeclaredMethods()) {
       need(!names.contains(m.getName()), "an inner method is named as a public one: " + within + " " + m);
     }
@@ -61,6 +71,7 @@ public final class FaceTest {
     }
     need(due.equals(found), "the public methods are " + found + ", due are " + due);
     for (String name : hidden) need(!names.contains(name), "a private method is named as a public one: " + name);
+    small(Shortsign.class);
     for (Class<?> within : Shortsign.class.getDeclaredClasses()) inner(within, names);
     for (Field f : Shortsign.class.getDeclaredFields()) need(Modifier.isPrivate(f.getModifiers()), "not private: " + f);
     Constructor<?>[] made = Shortsign.class.getDeclaredConstructors();
